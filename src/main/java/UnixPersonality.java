@@ -20,6 +20,14 @@ public final class UnixPersonality {
     private static final int TURN_INSTRUCTIONS = 3;
     private static final int MOST_TURNS = 80;
 
+    // Lengths of the arrays that hold something for each of several owners, one owner's part behind the other's.
+    private static final int ALL_WORDS = NODES * WORDS;
+    private static final int ALL_NAMES = NODES * NAMES;
+    private static final int ALL_PROGRAMS = PROCESSES * WORDS;
+    private static final int ALL_REGISTERS = PROCESSES * REGISTERS;
+    private static final int ALL_DESCRIPTORS = PROCESSES * DESCRIPTORS;
+    private static final int ALL_PIPE_WORDS = PIPES * PIPE_WORDS;
+
     private static final int ROOT = 0;
     private static final int NODE_FREE = 0;
     private static final int NODE_FILE = 1;
@@ -85,24 +93,24 @@ public final class UnixPersonality {
     // The number of words of a file, of entries of a directory.
     private final int[] nodeSize = new int[NODES];
     private final int[] nodeParent = new int[NODES];
-    private final int[] nodeWords = new int[NODES * WORDS];
-    private final int[] entryNode = new int[NODES * NAMES];
+    private final int[] nodeWords = new int[ALL_WORDS];
+    private final int[] entryNode = new int[ALL_NAMES];
 
     private final int[] processState = new int[PROCESSES];
     private final int[] processParent = new int[PROCESSES];
     private final int[] spotOrResult = new int[PROCESSES];
     private final int[] place = new int[PROCESSES];
-    private final int[] program = new int[PROCESSES * WORDS];
+    private final int[] program = new int[ALL_PROGRAMS];
     private final int[] programLength = new int[PROCESSES];
-    private final int[] registers = new int[PROCESSES * REGISTERS];
+    private final int[] registers = new int[ALL_REGISTERS];
     // All nothing for a process that is free or ended: what is there is told by this array alone.
-    private final int[] descriptors = new int[PROCESSES * DESCRIPTORS];
+    private final int[] descriptors = new int[ALL_DESCRIPTORS];
 
     private final int[] openingFile = new int[OPENINGS];
     private final boolean[] openingWrites = new boolean[OPENINGS];
     private final int[] openingPosition = new int[OPENINGS];
 
-    private final int[] pipeWords = new int[PIPES * PIPE_WORDS];
+    private final int[] pipeWords = new int[ALL_PIPE_WORDS];
     private final int[] pipeLength = new int[PIPES];
 
     private final int[] queue = new int[PROCESSES];
@@ -391,7 +399,8 @@ public final class UnixPersonality {
     }
 
     private void print(int x) {
-        if (printedCount < OUTPUTS) {
+        // Long after the calls that the document allows the count wraps; no call may fail even then.
+        if (printedCount >= 0 && printedCount < OUTPUTS) {
             outputs[printedCount] = x;
         }
         printedCount++;
@@ -683,7 +692,7 @@ public final class UnixPersonality {
     }
 
     private boolean isHeld(int what) {
-        for (int i = 0; i < PROCESSES * DESCRIPTORS; i++) {
+        for (int i = 0; i < ALL_DESCRIPTORS; i++) {
             if (descriptors[i] == what) {
                 return true;
             }
@@ -837,7 +846,7 @@ public final class UnixPersonality {
     }
 
     private boolean isEntered(int node) {
-        for (int i = 0; i < NODES * NAMES; i++) {
+        for (int i = 0; i < ALL_NAMES; i++) {
             if (entryNode[i] == node) {
                 return true;
             }
@@ -846,7 +855,7 @@ public final class UnixPersonality {
     }
 
     private boolean isOpened(int node) {
-        for (int i = 0; i < PROCESSES * DESCRIPTORS; i++) {
+        for (int i = 0; i < ALL_DESCRIPTORS; i++) {
             if (isOpening(descriptors[i]) && openingFile[descriptors[i] - OPENING] == node) {
                 return true;
             }

@@ -49,7 +49,7 @@ public final class LanguageTest {
         while (made.find()) {
             count++;
         }
-        Matcher field = Pattern.compile("^    private final \\w+\\[\\] \\w+ = new \\w+\\[[A-Z_* ]+\\];$", Pattern.MULTILINE)
+        Matcher field = Pattern.compile("^    private final \\w+\\[\\] \\w+ = new \\w+\\[[A-Z_]+\\];$", Pattern.MULTILINE)
             .matcher(source);
         int fields = 0;
         while (field.find()) {

@@ -194,6 +194,10 @@ public final class OpsTest {
             Asm.set(3, 9), Asm.write(3, 1), Asm.read(3, 0));
         registers("READ: the first word goes first", x, 0, 0, 1, 5, 6);
         Check.due("READ: the rest stays", x.pipe(0), 1);
+        registers("WRITE to a pipe", Asm.after(0, Asm.pipe(0, 1), Asm.write(2, 1)), 0, 0, 1, 0, 1);
+        x = Asm.after(0, Asm.pipe(0, 1), Asm.write(2, 1), Asm.set(3, 7), Asm.read(2, 0));
+        registers("READ of a pipe", x, 0, 0, 1, 0, 1);
+        registers("READ of a file", Asm.after(14, Asm.open(0, 0), Asm.read(2, 0)), 0, 0, 0, Asm.open(0, 0), 1);
         x = Asm.after(0, Asm.pipe(0, 1), Asm.set(2, 5), Asm.write(2, 1), Asm.close(1), Asm.set(2, 0), Asm.read(2, 0));
         registers("READ without writing end", x, 0, 0, 1, 5, 1);
         x = Asm.after(0, Asm.pipe(0, 1), Asm.set(2, 5), Asm.close(1), Asm.read(2, 0));
@@ -223,6 +227,8 @@ public final class OpsTest {
         for (int name : new int[] {-1, 0, 14, 16, LOW, HIGH}) {
             registers("GO " + name, Asm.after(name, Asm.go(0)), 0, name, 0, 0, -1);
         }
+        registers("GO to the parent", Asm.after(15, Asm.go(0)), 0, 15, 0, 0, 1);
+        registers("GO to a directory", Asm.after(5, Asm.make(0), Asm.set(3, 7), Asm.go(0)), 0, 5, 0, 0, 1);
         x = Asm.after(15, Asm.go(0), Asm.set(1, 6), Asm.make(1));
         Check.due("GO: the root is its own parent", x.entry(0, 6), 2);
         registers("SIZE of a file", Asm.after(14, Asm.size(0)), 0, 2);
@@ -234,6 +240,7 @@ public final class OpsTest {
 
     private static void linking() {
         UnixPersonality x = Asm.after(14, Asm.set(1, 5), Asm.link(0, 1), Asm.remove(0), Asm.nothing(), Asm.nothing(), Asm.nothing());
+        registers("LINK", Asm.after(14, Asm.set(1, 5), Asm.link(0, 1)), 0, 14, 5, 0, 1);
         Check.due("LINK: the same node", x.entry(0, 5), 1);
         Check.due("LINK: the first entry went", x.entry(0, 14), -1);
         Check.due("LINK: the file stays", x.kind(1), 1);

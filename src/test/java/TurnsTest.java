@@ -54,6 +54,25 @@ public final class TurnsTest {
         Check.due("FORK: ready", x.state(2), READY);
     }
 
+    private static void forkCopiesPlaceAndSetsParent() {
+        // Process 1 makes the directory 5 and goes there, forks 2, and waits; 2 makes 6 there, forks 3, and ends with 8.
+        UnixPersonality x = new UnixPersonality();
+        Asm.load(x, 0, Asm.staying());
+        Asm.load(x, 1, Asm.make(0), Asm.go(0), Asm.pipe(1, 2), Asm.pipe(1, 2), Asm.fork(2), Asm.addNumber(2, 1),
+            Asm.jumpIfZero(2, 9), Asm.await(0, 1), Asm.jump(8),
+            Asm.set(0, 6), Asm.make(0), Asm.fork(2), Asm.set(0, 8), Asm.end(0));
+        x.spawn(0, 0);
+        x.spawn(1, 5);
+        x.run(5);
+        Check.due("FORK: descriptor 3 is copied", x.descriptor(2, 3), 8193);
+        x.run(30);
+        Check.due("FORK: the place is copied", x.entry(x.entry(0, 5), 6) > 0, true);
+        states("FORK: the parent waited for its own child", x, READY, READY, FREE, FREE);
+        Check.due("WAIT: its result", x.register(1, 0), 8);
+        Check.due("WAIT: its number", x.register(1, 1), 2);
+        Check.due("pipe 1 is held by process 1", x.pipe(1), 0);
+    }
+
     private static void forkJoinsTheQueueAtOnce() {
         // The copy stands behind process 1 and before the forking one.
         UnixPersonality x = new UnixPersonality();
@@ -445,6 +464,7 @@ public final class TurnsTest {
     public static void main(String[] args) {
         turnsGoRound();
         promise18Fork();
+        forkCopiesPlaceAndSetsParent();
         forkJoinsTheQueueAtOnce();
         forkWithoutFreeProcess();
         forkedOnesShareOpenings();
