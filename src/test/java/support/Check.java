@@ -2,15 +2,21 @@
 final class Check {
     private static int looked = 0;
     private static int wrong = 0;
+    private static String sentence = "";
 
     private Check() {
+    }
+
+    /** The document's own words, which the checks from here on are about; SentencesTest looks them up there. */
+    static void sentence(String words) {
+        sentence = "\"" + words + "\": ";
     }
 
     static void due(String call, long got, long want) {
         looked++;
         if (got != want) {
             wrong++;
-            System.out.println(call + " answered " + got + ", due is " + want);
+            System.out.println(sentence + call + " answered " + got + ", due is " + want);
         }
     }
 
