@@ -432,6 +432,11 @@ public final class CallBoundsTest {
                 .turns(2).make();
             Check.due("with " + c[0] + " and " + c[1] + " closed", x.pipe(0), c[2]);
         }
+        for (int d = 2; d < 4; d++) {
+            x = new Run().program(0, Asm.pipe(0, 1), Asm.pipe(0, 1), Asm.write(0, 1), Asm.set(2, d), Asm.close(2)).turns(2).make();
+            Check.due("pipe(1) with " + d + " closed", x.pipe(1), 1);
+            Check.due("pipe(0) as before", x.pipe(0), 0);
+        }
     }
 
     private static void executed() {

@@ -99,9 +99,11 @@ public final class DescriptorBoundsTest {
         Twin.fails("a third", two, 6, new int[] {Asm.set(1, 7)}, Asm.pipe(0, 1));
         // One end keeps it; with no end left it is the smallest again, without words.
         for (int closed = 0; closed < 2; closed++) {
-            Run kept = new Run().file(13, Asm.pipe(0, 1), Asm.pipe(2, 3), Asm.close(closed), Asm.close(2), Asm.jump(4)).spawn(13, 0)
-                .turns(2);
-            Twin.fails("a third, with end " + closed + " closed", kept, 6, new int[] {Asm.set(1, 7)}, Asm.pipe(0, 1));
+            for (int other = 2; other < 4; other++) {
+                Run kept = new Run().file(13, Asm.pipe(0, 1), Asm.pipe(2, 2), Asm.set(2, other), Asm.close(closed), Asm.close(2),
+                    Asm.jump(5)).spawn(13, 0).turns(2);
+                Twin.fails("a third, with " + closed + " and " + other + " closed", kept, 6, new int[] {Asm.set(1, 7)}, Asm.pipe(0, 1));
+            }
         }
         int[] gone = {Asm.pipe(0, 1), Asm.write(0, 1), Asm.write(0, 1), Asm.pipe(2, 3), Asm.close(0), Asm.close(1), Asm.pipe(0, 1)};
         x = after(new Run(), 0, gone);
@@ -115,6 +117,13 @@ public final class DescriptorBoundsTest {
         x = after(new Run(), 0, full, Asm.write(0, 1));
         Check.due("still 4", x.pipe(0), 4);
         Check.due("the fifth waits", x.state(0), WAITING);
+        int[] second = Twin.join(new int[] {Asm.pipe(0, 1), Asm.pipe(0, 1)}, Arrays.copyOfRange(full, 1, 5));
+        x = after(new Run(), 0, second, Asm.nothing());
+        Check.due("pipe 1: 4 words", x.pipe(1), 4);
+        Check.due("pipe 1: the fourth does not wait", x.state(0), READY);
+        x = after(new Run(), 0, second, Asm.write(0, 1));
+        Check.due("pipe 1: still 4", x.pipe(1), 4);
+        Check.due("pipe 1: the fifth waits", x.state(0), WAITING);
     }
 
     private static void newDescriptor() {
@@ -266,6 +275,10 @@ public final class DescriptorBoundsTest {
         x = shared.turns(6).file(12, Asm.kill(0), Asm.end(0)).spawn(12, 1).turns(5).make();
         Check.due("the other one is killed: r3 = 0", x.register(0, 3), 0);
         Check.due("the other one is killed: it goes on", x.spot(0), 6);
+        x = after(new Run(), 0, AT_ONCE, Asm.pipe(0, 1), Asm.pipe(0, 1), Asm.read(2, 0));
+        Check.due("pipe 1, its own writing end: it waits", x.state(0), WAITING);
+        x = after(new Run(), 0, AT_ONCE, Asm.pipe(0, 1), Asm.pipe(0, 1), Asm.set(3, 8), Asm.close(1), Asm.read(2, 0));
+        registers("pipe 1, no writing end", x, 2, 3, 0, 0);
         // The other pipe's words and ends do not matter.
         x = after(new Run(), 0, AT_ONCE, Asm.pipe(0, 1), Asm.pipe(2, 3), Asm.write(2, 3), Asm.nothing(), Asm.read(2, 0));
         Check.due("only the other pipe has words: it waits", x.state(0), WAITING);
@@ -354,6 +367,8 @@ public final class DescriptorBoundsTest {
         x = after(new Run(), 0, AT_ONCE, Asm.pipe(0, 1), Asm.copy(2, 0), Asm.close(0), Asm.write(2, 1));
         Check.due("a copied reading end", x.pipe(0), 1);
         writePipeOfTwo();
+        x = after(new Run(), 0, AT_ONCE, Asm.pipe(0, 1), Asm.pipe(0, 1), Asm.close(0), Asm.write(2, 1));
+        Check.due("pipe 1, no reading end: it ended", x.state(0), UnixPersonality.FREE);
         // The other pipe's ends and words do not matter.
         x = after(new Run(), 0, AT_ONCE, Asm.pipe(0, 1), Asm.pipe(2, 3), Asm.close(0), Asm.write(2, 1));
         Check.due("only the other pipe has a reading end", x.state(0), 0);

@@ -4,6 +4,8 @@ import java.util.TreeMap;
 public final class ModelTest {
     private static final int OBJECTS = 12000;
     private static final int CALLS = 512;
+    private static final int OBJECTS_GOING_ON = 100;
+    private static final int CALLS_MORE = 2000;
     /** How often each op is drawn. */
     private static final int[] WEIGHT = {
         2, 40, 4, 3, 3, 5, 3, 3, 6, 3, 9, 6, 2, 22, 7, 16, 22, 7, 6, 5, 7, 8, 7, 7, 4, 4, 3, 4, 4, 1, 1, 1
@@ -131,11 +133,36 @@ public final class ModelTest {
         }
     }
 
+    /** What is answered after the last call that counts is free, but no call may throw or fail to end. */
+    private void goOn() {
+        for (int i = 0; i < CALLS_MORE; i++) {
+            int a = around(0, 14);
+            int b = around(0, 19);
+            x.file(a, b, oneIn(2) ? drawWord() : (int) seed);
+            x.spawn(a, b);
+            x.run(a);
+            x.state(a);
+            x.spot(a);
+            x.register(a, b);
+            x.descriptor(a, b);
+            x.entry(a, b);
+            x.kind(a);
+            x.size(a);
+            x.word(a, b);
+            x.pipe(a);
+            x.output(b);
+            x.level(a);
+        }
+    }
+
     public static void main(String[] args) {
         TreeMap<String, Integer> happened = new TreeMap<>();
         for (int object = 0; object < OBJECTS && !Check.anyWrong(); object++) {
             ModelTest test = new ModelTest(object);
             test.play();
+            if (object < OBJECTS_GOING_ON) {
+                test.goOn();
+            }
             test.m.happened.forEach((what, times) -> happened.merge(what, times, Integer::sum));
         }
         if (args.length > 0) {

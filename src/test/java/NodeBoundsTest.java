@@ -85,6 +85,32 @@ public final class NodeBoundsTest {
         }
     }
 
+    private static void noNames() {
+        Check.sentence("A directory has up to 6 ENTRIES, each a name from 0 to 14 and a node, and a PARENT, a directory;");
+        // Two directories, nodes 2 and 3, each with a file as 0 and 14: what is no name in one is not the other one's 0 or 14.
+        Run world = Worlds.nested(2).file(9, Asm.set(2, 2), Asm.go(0), Asm.set(1, 0), Asm.open(1, 2), Asm.close(1), Asm.set(3, 14),
+            Asm.link(1, 3), Asm.addNumber(2, -1), Asm.jumpIfNotZero(2, 1), Asm.end(0)).spawn(9, 11).turns(80);
+        UnixPersonality x = world.make();
+        for (int node = 2; node < 4; node++) {
+            Check.due("entry(" + node + ", 0)", x.entry(node, 0), node + 3);
+            Check.due("entry(" + node + ", 14)", x.entry(node, 14), node + 3);
+        }
+        int[] inner = {Asm.set(1, 11), Asm.go(1), Asm.go(1)};
+        int[] words = {Asm.execute(0), Asm.open(0, 0), Asm.open(0, 2), Asm.link(0, 1), Asm.remove(0), Asm.make(0), Asm.link(2, 0)};
+        for (int[] before : new int[][] {GO_11, inner}) {
+            int[] chosen = Twin.join(before, new int[] {Asm.set(1, 5)});
+            for (int name : NO_NAMES) {
+                for (int word : words) {
+                    Twin.fails("word " + word + " with " + name, world, name, chosen, word);
+                }
+                Twin.acts("SIZE " + name, world, name, chosen, Asm.size(0), Asm.set(0, -1));
+                if (name != 15) {
+                    Twin.fails("GO " + name, world, name, chosen, Asm.go(0));
+                }
+            }
+        }
+    }
+
     private static void root() {
         Check.sentence("node 0 is the ROOT, a directory that is its own parent.");
         UnixPersonality x = after(Worlds.nested(2), 15, AT_ONCE, Asm.go(0), Asm.go(0), Asm.set(1, 3), Asm.make(1));
@@ -455,6 +481,7 @@ public final class NodeBoundsTest {
         nodes();
         words();
         entries();
+        noNames();
         root();
         links();
         lostFiles();

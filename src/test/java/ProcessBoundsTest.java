@@ -266,6 +266,19 @@ public final class ProcessBoundsTest {
             Asm.fork(2), Asm.jump(6)).spawn(13, 0).spawn(13, 0).spawn(13, 0).spawn(13, 0).spawn(12, 0).turns(20).make();
         Check.due("the smallest free one", x.register(4, 1), 1);
         Check.due("then the next", x.register(4, 2), 3);
+        // 0 is free: 1 forks it, and it goes back to the first word of all 20.
+        int[] all = new int[20];
+        Arrays.fill(all, Asm.nothing());
+        all[0] = Asm.jumpIfNotZero(2, 19);
+        all[1] = Asm.fork(1);
+        all[2] = Asm.set(2, 5);
+        all[3] = Asm.jump(0);
+        all[19] = Asm.jump(19);
+        x = new Run().file(12, Asm.end(0)).file(13, all).spawn(12, 0).spawn(13, 0).turns(2).make();
+        Check.due("FORK of 0", x.register(1, 1), 0);
+        x.run(6);
+        Check.due("the copy goes by word 0 to word 19", x.spot(0), 19);
+        Check.due("as this one does", x.spot(1), 19);
         // The copy has the descriptors and the place, but no children.
         x = Worlds.nested(1).program(11, Asm.go(0), Asm.pipe(1, 2), Asm.set(3, 14), Asm.fork(3), Asm.addNumber(3, 1), Asm.jumpIfZero(3, 8),
             Asm.nothing(), Asm.jump(7), Asm.set(2, 5), Asm.make(2), Asm.jump(10)).turns(5).make();
@@ -336,6 +349,24 @@ public final class ProcessBoundsTest {
         x = new Run().file(13, late).spawn(13, 8).turns(60).make();
         Check.due("the smallest one", x.output(0), 1);
         Check.due("then the greater one", x.output(1), 2);
+        // 1 is the parent of 0, and looks before or after that has ended.
+        Run zero = new Run().file(12, Asm.end(0)).spawn(12, 0);
+        Run before = zero.file(13, Asm.fork(1), Asm.jumpIfNotZero(1, 4), Asm.await(2, 3), Asm.jump(3), Asm.end(0)).spawn(13, 8);
+        Run behind = zero.file(13, Asm.fork(1), Asm.jumpIfNotZero(1, 5), Asm.nothing(), Asm.await(2, 3), Asm.jump(4), Asm.end(0))
+            .spawn(13, 8);
+        states("before the child 0 has ended", before.turns(2).make(), READY, WAITING);
+        states("after the child 0 has ended", behind.turns(3).make(), ENDED, READY);
+        for (Run run : new Run[] {before, behind}) {
+            x = run.turns(4).make();
+            states("0 is free", x, FREE, READY);
+            registers("0 is taken", x, 1, 8, 0, 8, 0);
+        }
+        // 1 ends, when its child 0 has ended.
+        x = new Run().file(12, Asm.end(0)).file(13, Asm.fork(1), Asm.jumpIfNotZero(1, 6), Asm.yieldTurn(), Asm.yieldTurn(), Asm.yieldTurn(),
+            Asm.end(0), Asm.end(0)).spawn(12, 0).spawn(13, 8).turns(4).make();
+        states("its child 0 has ended", x, ENDED, READY);
+        x.run(10);
+        states("both are free", x, FREE, FREE);
         // 1 is another one's ended child, and stays that: 2 has none.
         x = child(8, Asm.end(0)).turns(3).program(5, Asm.await(1, 2)).turns(3).make();
         states("another one's child", x, READY, ENDED, READY);

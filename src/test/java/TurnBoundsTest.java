@@ -285,6 +285,18 @@ public final class TurnBoundsTest {
         x = new Run().file(12, Asm.fork(1), Asm.fork(2), Asm.await(3, 3), Asm.jump(3)).file(13, Asm.out(0), Asm.nothing(), Asm.jump(0))
             .spawn(12, 0).spawn(13, 50).turns(1).make();
         states("the forking one waits", x, WAITING, READY, READY, READY, FREE);
+        // 0 forks 1 and 2 in one turn, and 1 then forks 3: the queue is 1, 2, 0, then 2, 0, 3, 1.
+        x = new Run().file(12, Asm.fork(1), Asm.nothing(), Asm.fork(2), Asm.out(1), Asm.out(2), Asm.jump(5)).spawn(12, 0).turns(2).make();
+        outputs("the first of two has its turn first", x, -1);
+        states("the first of two has its turn first", x, READY, READY, READY, READY, FREE);
+        x.run(2);
+        outputs("then the second, then their parent", x, -1, 1, -1, 1, 2);
+        x.run(2);
+        outputs("then the child's child, then the child", x, -1, 1, -1, 1, 2, -1, -1, 3);
+        // Forked and killed in one turn: it never has a turn.
+        x = new Run().file(12, Asm.fork(1), Asm.kill(1), Asm.yieldTurn(), Asm.end(0)).spawn(12, 0).make();
+        Check.due("forked and killed: only its parent's turns", x.run(80), 2);
+        Check.due("forked and killed: only its parent's instructions", x.executed(), 4);
         // In the last instruction of a turn.
         x = new Run().file(12, Asm.nothing(), Asm.nothing(), Asm.fork(1), Asm.out(1), Asm.nothing(), Asm.jump(4)).spawn(12, 0)
             .file(13, Asm.out(0), Asm.nothing(), Asm.jump(0)).spawn(13, 50).turns(4).make();
