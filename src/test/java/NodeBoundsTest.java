@@ -49,23 +49,22 @@ public final class NodeBoundsTest {
 
     private static void entries() {
         Check.sentence("A directory has up to 6 ENTRIES, each a name from 0 to 14 and a node, and a PARENT, a directory;");
-        int[][] ways = {{Asm.make(0), 7}, {Asm.open(0, 2), 7}, {Asm.link(2, 0), 7}};
-        for (int[] way : ways) {
+        for (int way : new int[] {Asm.make(0), Asm.open(0, 2), Asm.link(2, 0)}) {
             // The root: the program is an entry, too.
             int[] name = {Asm.set(2, 14)};
-            UnixPersonality x = after(Worlds.files(4), 7, name, way[0]);
-            Check.due("the root's sixth entry, by " + way[0], x.size(0), 6);
+            UnixPersonality x = after(Worlds.files(4), 7, name, way);
+            Check.due("the root's sixth entry, by " + way, x.size(0), 6);
             Check.due("the root's sixth entry is there", x.entry(0, 7) > 0, true);
-            Twin.fails("the root's seventh entry, by " + way[0], Worlds.files(5), 7, name, way[0]);
+            Twin.fails("the root's seventh entry, by " + way, Worlds.files(5), 7, name, way);
             // A directory: r2 = 0 names its file.
-            x = after(Worlds.directory(5), 7, GO_11, way[0]);
-            Check.due("a directory's sixth entry, by " + way[0], x.size(2), 6);
+            x = after(Worlds.directory(5), 7, GO_11, way);
+            Check.due("a directory's sixth entry, by " + way, x.size(2), 6);
             Check.due("a directory's sixth entry is there", x.entry(2, 7) > 0, true);
-            Twin.fails("a directory's seventh entry, by " + way[0], Worlds.directory(6), 7, GO_11, way[0]);
+            Twin.fails("a directory's seventh entry, by " + way, Worlds.directory(6), 7, GO_11, way);
             // The place counts, not the root.
-            x = after(Worlds.directory(5).file(0, 1).file(1, 1).file(2, 1), 7, GO_11, way[0]);
+            x = after(Worlds.directory(5).file(0, 1).file(1, 1).file(2, 1), 7, GO_11, way);
             Check.due("the root is full", x.size(0), 6);
-            Check.due("the place was not, by " + way[0], x.size(2), 6);
+            Check.due("the place was not, by " + way, x.size(2), 6);
         }
         UnixPersonality x = after(Worlds.files(5), 4, AT_ONCE, Asm.remove(0), Asm.set(0, 7), Asm.make(0));
         Check.due("room again after a REMOVE", x.entry(0, 7), 5);
@@ -305,7 +304,7 @@ public final class NodeBoundsTest {
         x = after(Worlds.directory(6), 5, GO_11, Asm.open(0, 2));
         Check.due("OPEN by 2 with 6 entries", x.descriptor(0, 0), 1);
         Check.due("6 entries still", x.size(2), 6);
-        // Both: 6 directories, the program and 2 files make 10 nodes, and 4 links fill the root.
+        // Both: 6 directories and 3 files make 10 nodes with the root, and 2 links fill that.
         x = after(Worlds.nested(6).file(0, 5), 0, AT_ONCE, Asm.set(1, 1), Asm.link(0, 1), Asm.set(1, 2), Asm.link(0, 1), Asm.open(0, 2));
         Check.due("no node is free", x.kind(9), 1);
         Check.due("6 entries", x.size(0), 6);
