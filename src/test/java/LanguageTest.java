@@ -40,7 +40,8 @@ public final class LanguageTest {
         }
         Check.due("a lambda or method reference", source.contains("->") || source.contains("::"), false);
         Check.due("a text", source.contains("\""), false);
-        Check.due("methods are found", bodies.size() > 20, true);
+        Check.due("methods that are found, with the constructor", bodies.size(),
+            UnixPersonality.class.getDeclaredMethods().length + 1);
     }
 
     private void arrays() {
@@ -57,6 +58,28 @@ public final class LanguageTest {
         }
         Check.due("arrays that a field's initialiser makes", fields, count);
         Check.due("arrays of arrays", source.contains("[]["), false);
+    }
+
+    /** Every loop counts up to a bound in its first line, and nothing else moves its counter. */
+    private void loops() {
+        Matcher loop = Pattern.compile("\\b(?:for|while|do)\\b[^\n]*").matcher(source);
+        Pattern counted = Pattern.compile("for \\(int (\\w+) = \\w+; \\1 < \\w+(?: && \\w+)?; \\1\\+\\+\\) \\{");
+        int found = 0;
+        while (loop.find()) {
+            found++;
+            Matcher head = counted.matcher(loop.group());
+            boolean counts = head.matches();
+            Check.due("'" + loop.group() + "' counts up to a bound", counts, true);
+            if (counts) {
+                int indent = loop.start() - source.lastIndexOf('\n', loop.start()) - 1;
+                String last = "\n" + " ".repeat(indent) + "}\n";
+                String body = source.substring(loop.end(), source.indexOf(last, loop.end()));
+                Pattern moved = Pattern.compile("(?:\\+\\+|--)" + head.group(1) + "\\b|(?<!\\w)" + head.group(1)
+                    + "\\s*(?:\\+\\+|--|[-+*/%&|^]?=(?!=)|<<=|>>>?=)");
+                Check.due("the counter of '" + loop.group() + "' is moved inside", moved.matcher(body).find(), false);
+            }
+        }
+        Check.due("loops are found", found > 0, true);
     }
 
     private List<String> callsOf(String name) {
@@ -114,6 +137,7 @@ public final class LanguageTest {
         LanguageTest test = new LanguageTest(Files.readString(Path.of("src/main/java/UnixPersonality.java")));
         test.words();
         test.arrays();
+        test.loops();
         test.methods();
         Check.finish();
     }
